@@ -18,13 +18,12 @@ public final class TriSplits {
     private static final int MOST_LOG = 16;
     private static final int MOST_ROOTS = 12;
 
-    private final Tape tape = new Tape();
-    private final Reader reader = new Reader(tape);
+    private final Reader reader = new Reader();
     private final Store store = new Store();
     private final Factors factors = new Factors();
     private final Factors others = new Factors();
     private final Orders orders = new Orders();
-    private final Families families = new Families(orders);
+    private final Families families = new Families();
     private final Field field = new Field();
     private final Rows rows = new Rows();
     private final Letters letters = new Letters();
@@ -35,6 +34,7 @@ public final class TriSplits {
     // ---- the TAPE and its TEXT
 
     public int feed(int a, int b, int c, int d, int e) {
+        Tape tape = reader.tape();
         if (!tape.hasRoom(20)) {
             return NONE;
         }
@@ -47,12 +47,12 @@ public final class TriSplits {
     }
 
     public int end(int n) {
-        return tape.cut(n) ? n : NONE;
+        return reader.tape().cut(n) ? n : NONE;
     }
 
     public int run() {
         int done = reader.readText(store);
-        tape.cut(0);
+        reader.tape().cut(0);
         if (reader.latestFault() != NONE) {
             return NO_SUCH - reader.latestFault();
         }
@@ -526,7 +526,7 @@ public final class TriSplits {
             case 1:
                 return store.undoable();
             case 2:
-                return tape.size();
+                return reader.tape().size();
             case 3:
                 return store.keptShelves();
             case 4:
@@ -636,7 +636,7 @@ public final class TriSplits {
         /** Above every NUMBER that can stand, and low enough that ten times it is no overflow. */
         private static final int TOO_LARGE = 1000;
 
-        private final Tape tape;
+        private final Tape tape = new Tape();
         private final long[] polys = new long[Store.PLACES];
         private final int[] opened = new int[MOST_OPEN];
         private int at;
@@ -645,8 +645,8 @@ public final class TriSplits {
         private int within;
         private int innermost = NONE;
 
-        Reader(Tape tape) {
-            this.tape = tape;
+        Tape tape() {
+            return tape;
         }
 
         int latestFault() {
@@ -1493,11 +1493,7 @@ public final class TriSplits {
         /** More than the POLYS of one WEIGHT and DEGREE to 20 are. */
         private static final int MOST_TRIES = 1000000;
 
-        private final Orders orders;
-
-        Families(Orders orders) {
-            this.orders = orders;
-        }
+        private final Orders orders = new Orders();
 
         int countTris(int n, boolean primitive) {
             int many = 0;

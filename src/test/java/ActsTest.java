@@ -41,10 +41,12 @@ public final class ActsTest {
         did(x, "multiply", x.multiply(0, 1, 6), 6, 49);
         did(x, "multiply by 0", x.multiply(2, 3, 6), 6, 0);
         did(x, "multiply to 31", x.multiply(4, 5, 6), 6, 1L << 31);
+        Check.run(x, "7=(x+1)^30;8=x+1");
+        did(x, "multiply to all 32 bits", x.multiply(7, 8, 6), 6, 4294967295L);
+        did(x, "multiply to 31", x.multiply(4, 5, 6), 6, 1L << 31);
         CHECK.due("multiply to 32", x.multiply(4, 4, 6), -2);
         CHECK.due("multiply most", x.multiply(2, 2, 6), -2);
         CHECK.due("bits", x.bits(6), 1L << 31);
-        CHECK.due("ACTS", x.count(1), 9);
     }
 
     private static void divideAndRest() {

@@ -11,7 +11,7 @@ public final class ExtremesTest {
     private static final int[] INTS = {Integer.MIN_VALUE, -1000, -2, -1, 0, 1, 2, 3, 5, 8, 9, 10, 24, 31, 32, 60, 300, 2000, Integer.MAX_VALUE};
     private static final long[] LONGS = {Long.MIN_VALUE, -1, 0, 1, 2, 5, 31, 2147483647L, 2147483648L, 4294967295L, 4294967296L, 1L << 59, Long.MAX_VALUE};
     private static final String[] STATES = {"", "0=x;1=x+1;2=tri 2 1;3=tri 31 3;5=1;8=tri 16 12 tri 4 1;9=tri 12 3",
-        "0=x^31;1=(x+1)^31;2=x^4(x+1)^3 tri 2 1^2 tri 3 1 tri 3 2 tri 4 1 tri 4 3 (x^4+x^3+x^2+x+1);3=tri 31 3;5=x^31+1;8=tri 4 1;9=tri 3 1"};
+        "0=x^31;1=(x+1)^31;2=x^5(x+1)^4 tri 2 1^2 tri 3 1 tri 3 2 tri 4 1 tri 4 3 (x^4+x^3+x^2+x+1);3=tri 31 3;5=x^31+1;8=tri 4 1;9=tri 3 1"};
 
     private static long seed = 7;
 

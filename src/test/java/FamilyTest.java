@@ -59,8 +59,14 @@ public final class FamilyTest {
         CHECK.due("what -1", x.multiple(2, -1), -1);
         CHECK.due("PLACE 10", x.multiple(10, 0), -1);
         CHECK.due("PLACE -1", x.multiple(-1, 1), -1);
-        // the edge of 300: x^300+x^k+1 itself has divisors, some of which have no lesser one
-        TriSplits y = new TriSplits();
+        // the least multiples of these have DEGREE 299, 300 and 301
+        TriSplits y = with(68533, 67461, 68575);
+        CHECK.due("n 299", y.multiple(0, 0), 299);
+        CHECK.due("k of 299", y.multiple(0, 1), 249);
+        CHECK.due("n 300", y.multiple(1, 0), 300);
+        CHECK.due("k of 300", y.multiple(1, 1), 291);
+        CHECK.due("n 301", y.multiple(2, 0), -2);
+        CHECK.due("k of 301", y.multiple(2, 1), -2);
         SlowTriSplits slow = new SlowTriSplits();
         for (long f = 65537; f < 65700; f += 2) {
             y.put(0, f);
@@ -118,6 +124,11 @@ public final class FamilyTest {
         for (int n = 1; n <= 10; n++) {
             CHECK.due("many " + n, x.many(n, false), many[n - 1]);
             CHECK.due("many PRIMITIVE " + n, x.many(n, true), manyPrimitive[n - 1]);
+        }
+        SlowTriSplits slow = new SlowTriSplits();
+        for (int n = 1; n <= 31; n++) {
+            CHECK.due("many " + n, x.many(n, false), slow.many(n, false));
+            CHECK.due("many PRIMITIVE " + n, x.many(n, true), slow.many(n, true));
         }
         CHECK.due("many 31", x.many(31, false), 69273666);
         CHECK.due("many PRIMITIVE 31", x.many(31, true), 69273666);

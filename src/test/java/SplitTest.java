@@ -169,9 +169,9 @@ public final class SplitTest {
         CHECK.due("of PLACE 10", x.divisor(10, -1), -1);
         CHECK.due("of PLACE -1", x.divisor(-1, 0), -1);
         // no POLY of DEGREE to 31 has more
-        Check.run(x, "0=x^4(x+1)^3 tri 2 1^2 tri 3 1 tri 3 2 tri 4 1 tri 4 3 (x^4+x^3+x^2+x+1)");
+        Check.run(x, "0=x^5(x+1)^4 tri 2 1^2 tri 3 1 tri 3 2 tri 4 1 tri 4 3 (x^4+x^3+x^2+x+1)");
         int many = (int) x.divisor(0, -1);
-        CHECK.due("very many divisors", many, 5 * 4 * 3 * 32);
+        CHECK.due("very many divisors", many, 6 * 5 * 3 * 32);
         long last = 0;
         for (int k = 0; k < many; k++) {
             long d = x.divisor(0, k);

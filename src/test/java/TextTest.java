@@ -93,6 +93,8 @@ public final class TextTest {
         value("x^031", 1L << 31);
         value("x^31+1", 2147483649L);
         value("x^31*1", 1L << 31);
+        value("(x+1)^31", 4294967295L);
+        value("(x+1)^30 (x+1)", 4294967295L);
         value("x^31 0 x^31", 0);
         value("1^31", 1);
         value("(x^15)^2", 1L << 30);
@@ -162,6 +164,16 @@ public final class TextTest {
         faulty("0=y", 2, 1, 0, -1);
         faulty("0=xx", 2, 1, 0, -1);
         faulty("0= xyz", 3, 1, 0, -1);
+        faulty("0=xa", 2, 1, 0, -1);
+        faulty("0=xz", 2, 1, 0, -1);
+        faulty("0=a", 2, 1, 0, -1);
+        faulty("0=x`", 3, 1, 0, -1);
+        faulty("0=x{", 3, 1, 0, -1);
+        faulty("0=x/", 3, 1, 0, -1);
+        faulty("0=x:", 3, 1, 0, -1);
+        faulty("0=revx(x)", 2, 1, 0, -1);
+        faulty("0=px", 2, 1, 0, -1);
+        faulty("0=re(x)", 2, 1, 0, -1);
         faulty("0=X", 2, 1, 0, -1);
         faulty("0=x$", 3, 1, 0, -1);
         faulty("0=x\0", 3, 1, 0, -1);
