@@ -11,8 +11,8 @@ public final class FamilyTest {
     }
 
     private static void swan() {
-        TriSplits x = new TriSplits();
         for (int n = 2; n <= 31; n++) {
+            TriSplits x = new TriSplits();
             int even = 0;
             for (int k = 1; k < n; k++) {
                 x.put(0, 1L << n | 1L << k | 1);
@@ -23,6 +23,7 @@ public final class FamilyTest {
             }
             CHECK.due("evens " + n, x.evens(n), even);
         }
+        TriSplits x = new TriSplits();
         CHECK.due("swan 2000 1000", x.swan(2000, 1000), -2);
         CHECK.due("swan 1998 999", x.swan(1998, 999), 1);
         CHECK.due("swan 2000 1999", x.swan(2000, 1999), 0);
@@ -197,7 +198,7 @@ public final class FamilyTest {
         for (int n = 2; n <= 24; n++) {
             for (int k = 1; k < n; k++) {
                 for (int m = 1; m < 60; m += 2) {
-                    CHECK.due("stays " + n + " " + k + " " + m, x.stays(n, k, m), slow.stays(n, k, m));
+                    CHECK.due("stays " + n + " " + k + " " + m, new TriSplits().stays(n, k, m), slow.stays(n, k, m));
                 }
             }
         }
@@ -205,10 +206,10 @@ public final class FamilyTest {
         for (int n = 2; n <= 15; n++) {
             for (int k = 1; k < n; k++) {
                 for (int m = 1; m * n <= 31; m++) {
-                    x.put(0, 1L << n | 1L << k | 1);
-                    if (x.poly(0, 4) == 1) {
-                        x.rise(0, m, 1);
-                        CHECK.due("RISEN " + n + " " + k + " " + m, x.stays(n, k, m), x.poly(1, 4));
+                    TriSplits y = with(1L << n | 1L << k | 1);
+                    if (y.poly(0, 4) == 1) {
+                        y.rise(0, m, 1);
+                        CHECK.due("RISEN " + n + " " + k + " " + m, y.stays(n, k, m), y.poly(1, 4));
                     }
                 }
             }

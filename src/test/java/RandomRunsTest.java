@@ -8,7 +8,11 @@ public final class RandomRunsTest {
         "99999999999999999999"
     };
 
+    /** An object is used for at most 512 calls; the last TEXT and the last look at all take up to 42. */
+    private static final int MOST_CALLS = 470;
+
     private static long seed = 20261118;
+    private static int calls;
 
     private static int draw(int n) {
         seed = seed * 6364136223846793005L + 1442695040888963407L;
@@ -80,6 +84,7 @@ public final class RandomRunsTest {
     }
 
     private static void both(String call, long got, long want) {
+        calls++;
         CHECK.due(call, got, want);
     }
 
@@ -194,10 +199,10 @@ public final class RandomRunsTest {
             case 1: { int w = small(0, 8); both("poly " + w, x.poly(a, w), y.poly(a, w)); break; }
             case 2: { int k = small(0, 6); both("factor " + k, x.factor(a, k), y.factor(a, k)); break; }
             case 3: { int k = draw(3) > 0 ? 1 + draw(6) : small(1, 31); both("ofDegree " + k, x.ofDegree(a, k), y.ofDegree(a, k)); break; }
-            case 4: both("order of " + x.bits(a), x.order(a), y.order(a)); break;
+            case 4: both("order of " + y.bits(a), x.order(a), y.order(a)); break;
             case 5: { int n = small(2, 2000); int k = small(1, Math.max(n - 1, 1)); both("swan " + n + " " + k, x.swan(n, k), y.swan(n, k)); break; }
             case 6: { int n = small(2, 2000); both("evens " + n, x.evens(n), y.evens(n)); break; }
-            case 7: { int w = small(0, 1); both("multiple " + w + " of " + x.bits(a), x.multiple(a, w), y.multiple(a, w)); break; }
+            case 7: { int w = small(0, 1); both("multiple " + w + " of " + y.bits(a), x.multiple(a, w), y.multiple(a, w)); break; }
             case 8: {
                 int n = small(1, 60);
                 long s = ((long) draw(1 << 20) << 40 | (long) draw(1 << 20) << 20 | draw(1 << 20)) & (1L << n) - 1;
@@ -211,7 +216,7 @@ public final class RandomRunsTest {
             case 11: { int n = small(1, 31); both("many " + n + " " + flag, x.many(n, flag), y.many(n, flag)); break; }
             case 12: { int n = small(2, 24); int k = small(1, Math.max(n - 1, 1)); int r = draw(2) == 0 ? 1 + draw(50) : small(1, 1000); both("stays " + n + " " + k + " " + r, x.stays(n, k, r), y.stays(n, k, r)); break; }
             case 13: { int n = small(2, 24); both("bare " + n, x.bare(n), y.bare(n)); break; }
-            case 14: both("minimal " + x.bits(a) + " by " + x.bits(m), x.minimal(a, m), y.minimal(a, m)); break;
+            case 14: both("minimal " + y.bits(a) + " by " + y.bits(m), x.minimal(a, m), y.minimal(a, m)); break;
             case 15: both("trace", x.trace(a, m), y.trace(a, m)); break;
             case 16: both("conjugates", x.conjugates(a, m), y.conjugates(a, m)); break;
             case 17: both("log", x.log(a, b, m), y.log(a, b, m)); break;
@@ -219,7 +224,7 @@ public final class RandomRunsTest {
             case 19: { int w = small(0, 3); both("shift " + w, x.shift(w), y.shift(w)); break; }
             case 20: { int k = small(-1, 20); both("letter " + k, x.letter(a, k), y.letter(a, k)); break; }
             case 21: { int k = small(-1, 20); both("spell " + k, x.spell(a, k), y.spell(a, k)); break; }
-            case 22: both("next " + x.bits(a) + " " + flag, x.next(a, flag), y.next(a, flag)); break;
+            case 22: both("next " + y.bits(a) + " " + flag, x.next(a, flag), y.next(a, flag)); break;
             case 23: { int k = small(-1, 10); both("divisor " + k, x.divisor(a, k), y.divisor(a, k)); break; }
             case 24: both("couples", x.couples(a), y.couples(a)); break;
             case 25: { int w = small(0, 1); both("mirror " + w, x.mirror(a, w), y.mirror(a, w)); break; }
@@ -245,7 +250,7 @@ public final class RandomRunsTest {
         for (int run = 0; run < runs && !CHECK.isWrong(); run++) {
             TriSplits x = new TriSplits();
             SlowTriSplits y = new SlowTriSplits();
-            for (int i = 0; i < 200 && !CHECK.isWrong(); i++) {
+            for (calls = 0; calls < MOST_CALLS && !CHECK.isWrong();) {
                 int d = draw(10);
                 if (d == 0) {
                     text(x, y);

@@ -84,16 +84,14 @@ public final class SplitTest {
 
     /** Each POLY to DEGREE 10, by dividing it by all that are IRREDUCIBLE. */
     private static void allSmallOnes() {
-        TriSplits x = new TriSplits();
         for (long f = 2; f < 2048; f++) {
-            x.put(0, f);
+            TriSplits x = with(f);
             java.util.List<Long> due = SlowTriSplits.factors(f);
             CHECK.due("how many of " + f, x.poly(0, 6), due.size());
             for (int k = 0; k < due.size(); k++) {
                 CHECK.due("factor " + k + " of " + f, x.factor(0, k), due.get(k));
             }
             CHECK.due("order of " + f, x.order(0), SlowTriSplits.orderOf(f));
-            x.undo();
         }
     }
 
@@ -171,17 +169,17 @@ public final class SplitTest {
         // no POLY of DEGREE to 31 has more
         Check.run(x, "0=x^5(x+1)^4 tri 2 1^2 tri 3 1 tri 3 2 tri 4 1 tri 4 3 (x^4+x^3+x^2+x+1)");
         int many = (int) x.divisor(0, -1);
+        long poly = x.bits(0);
         CHECK.due("very many divisors", many, 6 * 5 * 3 * 32);
         long last = 0;
         for (int k = 0; k < many; k++) {
-            long d = x.divisor(0, k);
-            x.put(1, d);
-            x.rest(0, 1, 2);
-            CHECK.due("divides", x.bits(2), 0);
+            long d = with(poly).divisor(0, k);
+            CHECK.due("divides", d > 0 ? SlowTriSplits.mod(poly, d) : 1, 0);
             CHECK.due("rises", d > last ? 1 : 0, 1);
             last = d;
         }
-        CHECK.due("the last is itself", last, x.bits(0));
+        CHECK.due("the last is itself", last, poly);
+        CHECK.due("one more", x.divisor(0, many), -2);
     }
 
     private static void couples() {
