@@ -486,6 +486,10 @@ public final class EdgesTextTest {
     private static void whenDegreesAreAsked() {
         faulty("5=x(x^16)^2", 3, TOO_HIGH);
         faulty("5=x (x^16)^2$", 4, TOO_HIGH);
+        faulty("5=x*(x^16)^2", 4, TOO_HIGH);
+        faulty("5=x *  (x^16)^2", 7, TOO_HIGH);
+        faulty("5=1 +  x * (x^16) ^2", 11, TOO_HIGH);
+        faulty("5=1 +  x * x^31", 7, TOO_HIGH);
         faulty("5=x^31 (x^16)^2", 7, TOO_HIGH);
         faulty("5=0 (x^16)^2", 4, TOO_HIGH);
         faulty("5=0^1 x^31 (x^16)^2", 11, TOO_HIGH);
